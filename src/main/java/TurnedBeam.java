@@ -1004,9 +1004,9 @@ public final class TurnedBeam {
         case '*':
           return a * b;
         case '/':
-          return quotient(a, b);
+          return b == 0 ? 0 : a / b;
         default:
-          return rest(a, b);
+          return b == 0 ? 0 : a % b;
       }
     }
   }
