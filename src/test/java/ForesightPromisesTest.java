@@ -151,6 +151,9 @@ public final class ForesightPromisesTest {
     throneIs(two, 4, 4, 2, 103, 11);
     two.square(3, 13, 0);
     throneIs(two, 4, 4, 2, 103, 14);
+    TurnedBeam dear = Due.hall("\\//", "//s");
+    dear.square(4, 19, 0);
+    throneIs(dear, 5, 2, 1, 404, 14);
   }
 
   private static void had() {
@@ -164,6 +167,7 @@ public final class ForesightPromisesTest {
         new int[] {1, 0, 1, 1, 0, 0, 1, 1, 0, 0, 0, 1});
     due.is("had() of 200", x.had(), 200);
     due.is("count(4) as before", x.count(4), 0);
+    due.is("had() by window 0 alone", Due.hall("SS.", "#/#", ".#.").had(), 2);
     TurnedBeam y = built(3, 2, new int[] {51, 0, 51, 0, 51, 30}, new int[] {1, 1, 1, 0, 1, 1});
     due.is("had() of 216", y.had(), Due.FULL);
     due.is("told(4)", y.told(4), 1);

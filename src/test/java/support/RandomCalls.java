@@ -24,7 +24,7 @@ final class RandomCalls {
     this.textual = textual;
   }
 
-  void next(int rows, int columns, int waiting) {
+  void next(int rows, int columns) {
     int squares = rows * columns;
     int windows = 2 * (rows + columns);
     String[] names = textual && random.nextInt(3) > 0 ? FEEDS : NAMES;
@@ -32,7 +32,7 @@ final class RandomCalls {
     if (name.equals("hall") && random.nextInt(4) > 0) {
       name = "square";
     }
-    numbers = ordinary(squares, windows, waiting);
+    numbers = ordinary(squares, windows);
     for (int i = 0; i < numbers.length; i++) {
       if (!name.equals("feed") && random.nextInt(100) < wild) {
         numbers[i] = random.nextBoolean() ? FAR[random.nextInt(FAR.length)] : numbers[i] + random.nextInt(7) - 3;
@@ -40,7 +40,13 @@ final class RandomCalls {
     }
   }
 
-  private long[] ordinary(int squares, int windows, int waiting) {
+  /** A square of a hall that is filled ahead of the run. */
+  void fill(int square) {
+    name = "square";
+    numbers = row(square, kind() * 10 + below(10), below(2));
+  }
+
+  private long[] ordinary(int squares, int windows) {
     switch (name) {
       case "hall":
         return row(1 + below(5), 1 + below(5));
