@@ -277,6 +277,10 @@ public final class ForesightPromisesTest {
     due.is("tells(20, 0, 0), the most outs", z.tells(20, 0, 0), 2);
     due.is("tells(20, 0, 1)", z.tells(20, 0, 1), 2);
     due.is("slants() as before", z.slants(), 0);
+    TurnedBeam large = Due.hall(".....", ".....", "#....", "ss#..", "s#...");
+    Due.sheet(large, 0, 8);
+    due.is("tells(1 << 16, 0, 0), by OUTS 19 and 100", large.tells(1 << 16, 0, 0), 1);
+    due.is("tells(1 << 16, 0, 1)", large.tells(1 << 16, 0, 1), 2);
   }
 
   private static void longest() {
