@@ -51,6 +51,16 @@ final class Due {
     }
   }
 
+  /** A hall by the kinds, the m and the slants of its squares, a digit each. */
+  static TurnedBeam built(int rows, int columns, String kinds, String numbers, String slants) {
+    TurnedBeam x = new TurnedBeam();
+    x.hall(rows, columns);
+    for (int i = 0; i < rows * columns; i++) {
+      x.square(i, 10 * (kinds.charAt(i) - '0') + numbers.charAt(i) - '0', slants.charAt(i) - '0');
+    }
+    return x;
+  }
+
   /** A hall from rows of signs, one a square: . square, / and \ mirrors, other kinds by km and slant apart. */
   static TurnedBeam hall(String... rows) {
     TurnedBeam x = new TurnedBeam();
